@@ -22,6 +22,7 @@ final class MachineTests {
         undoAtMost();
         note();
         fits();
+        fitsSound();
         look();
         forget();
         behind();
@@ -30,6 +31,8 @@ final class MachineTests {
         years();
         yearsStartFromNow();
         image();
+        imageOfManyActs();
+        imageOfNotes();
     }
 
     private static ScanPacker twoChains() {
@@ -57,6 +60,8 @@ final class MachineTests {
         refusedAct(x, "put of a GATE", () -> x.put(4, 1));
         refusedAct(x, "put of no LINE", () -> x.put(6, 1));
         refusedAct(x, "put of NONE", () -> x.put(-1, 1));
+        ScanPacker y = Texts.of("in a;g=not a;");
+        refusedAct(y, "put of a GATE, no CELLS", () -> y.put(1, 1));
         refusedAct(x, "put of 2", () -> x.put(3, 2));
         refusedAct(x, "put of -1", () -> x.put(3, -1));
         Check.due("INPUTS stay", () -> x.count(9), 0);
@@ -165,6 +170,10 @@ final class MachineTests {
         y.defect(9);
         y.load(9);
         Check.due("no DEFECT is thought of", y::apply, 6);
+        ScanPacker z = twoChains();
+        Check.due("apply() at 0", z::apply, 4);
+        Check.due("0 isn't DONE", () -> z.test(0, 4), 0);
+        Check.due("3 is", () -> z.test(3, 4), 1);
     }
 
     private static void defect() {
@@ -222,6 +231,7 @@ final class MachineTests {
         x.undo();
         Check.due("undone", () -> x.count(12), 8);
         refusedAct(x, "pick(7) again", () -> x.pick(7));
+        pickUndone();
         ScanPacker y = Texts.of("in a b;see b;");
         refusedAct(y, "pick of a LOST one", () -> y.pick(0));
         Check.due("pick of another one", () -> y.pick(3), 1);
@@ -229,6 +239,17 @@ final class MachineTests {
         y.apply();
         y.pick(-1);
         Check.due("pick of one that is DONE", () -> y.pick(3), 1);
+    }
+
+    private static void pickUndone() {
+        ScanPacker x = twoChains();
+        x.pick(3);
+        x.pick(-1);
+        x.pick(5);
+        x.undo();
+        x.undo();
+        Check.due("3 is PICKED again", () -> x.pick(3), -1);
+        Check.due("5 isn't any more", () -> x.pick(5), 2);
     }
 
     private static void undo() {
@@ -331,6 +352,16 @@ final class MachineTests {
         fitsAre(y, 1, 0, 1, 3);
     }
 
+    /** g, nand of a and d, by 9: without any 0. */
+    private static void fitsSound() {
+        ScanPacker x = twoChains();
+        x.note(9, 4, 1);
+        fitsAre(x, 0, 0, 6, 9);
+        ScanPacker y = twoChains();
+        y.note(9, 4, 0);
+        fitsAre(y, 1, 1, 2, 3, 4, 5, 7, 8, 10, 11);
+    }
+
     private static void lookIs(ScanPacker x, int row, int unlike) {
         Check.due("look(0)", () -> x.look(0), row);
         Check.due("look(1)", () -> x.look(1), unlike);
@@ -353,6 +384,9 @@ final class MachineTests {
         lookIs(y, 2, 2);
         y.note(2, 1, 0);
         lookIs(y, 0, 1);
+        ScanPacker one = Texts.of("in a;see a;");
+        one.note(0, 0, 0);
+        lookIs(one, 1, 2);
         ScanPacker z = Texts.of("in a b c d e f;see a b c d e f;");
         lookIs(z, 0, 7);
         z.note(63, 5, 0);
@@ -423,6 +457,9 @@ final class MachineTests {
         Check.noSuch("tells(12)", () -> x.tells(12));
         Check.noSuch("tells(-1)", () -> x.tells(-1));
         Check.due("nothing stays", () -> x.count(9) * 100 + x.count(10), 802);
+        ScanPacker one = Texts.of("in a;see a;");
+        Check.due("the first LINE at 1", () -> one.tells(1), 0);
+        Check.due("the first LINE at 0", () -> one.tells(0), -1);
         ScanPacker y = Texts.of(COUNTER);
         Check.due("z at 0 is told by 63", () -> y.tells(32), 63);
         Check.due("z at 1 at once", () -> y.tells(33), 0);
@@ -543,5 +580,41 @@ final class MachineTests {
         x.load(4);
         Check.due("in place of another one", x::restore, 1);
         Check.due("the new one", () -> x.count(9), 3);
+    }
+
+    private static void imageOfManyActs() {
+        ScanPacker x = Texts.of("in a b c d e f;");
+        for (int i = 1; i <= 50; i++) {
+            x.load(i);
+        }
+        x.image();
+        for (int i = 0; i < 20; i++) {
+            x.undo();
+        }
+        for (int i = 0; i < 30; i++) {
+            x.load(60);
+        }
+        Check.due("restore()", x::restore, 1);
+        for (int i = 49; i >= 10; i--) {
+            Check.due("undo() to " + i, x::undo, i - 10);
+            Check.due("INPUTS " + i, () -> x.count(9), i);
+        }
+        Check.due("no more", x::undo, -1);
+    }
+
+    private static void imageOfNotes() {
+        ScanPacker x = twoChains();
+        x.pick(3);
+        x.note(9, 4, 1);
+        x.image();
+        x.pick(-1);
+        x.pick(5);
+        x.forget();
+        x.note(9, 4, 0);
+        Check.due("others FIT", () -> x.fits(0), 1);
+        Check.due("restore()", x::restore, 1);
+        fitsAre(x, 0, 0, 6, 9);
+        Check.due("3 is PICKED", () -> x.pick(3), -1);
+        Check.due("5 isn't", () -> x.pick(5), 2);
     }
 }

@@ -29,6 +29,7 @@ final class NetTests {
         orderOfLikeOnes();
         pack();
         packOfMany();
+        largest();
     }
 
     private static void counts(ScanPacker x, int... due) {
@@ -139,6 +140,10 @@ final class NetTests {
             Check.due("test(" + f + ", 4)", () -> x.test(fault, 4), done ? 1 : 0);
             Check.due("test(" + f + ", 5)", () -> x.test(fault, 5), sets[f]);
         }
+        ScanPacker y = Texts.of("in a b;g = and a b;see a g;");
+        Check.due("UNDER the first", () -> y.test(2, 3), 1);
+        Check.due("UNDER the first and the last", () -> y.test(3, 3), 2);
+        Check.due("not UNDER a like one", () -> y.test(4, 3), 1);
         Check.noSuch("test(12, 0)", () -> x.test(12, 0));
         Check.noSuch("test(-1, 0)", () -> x.test(-1, 0));
         Check.noSuch("test(0, 6)", () -> x.test(0, 6));
@@ -200,6 +205,14 @@ final class NetTests {
         Check.noSuch("cube(0, 4)", () -> x.cube(0, 4));
         Check.noSuch("cube(0, -1)", () -> x.cube(0, -1));
         Check.noSuch("cube(12, 0)", () -> x.cube(12, 0));
+        Check.noSuch("cube(64, 0)", () -> x.cube(64, 0));
+        ScanPacker y = Texts.of("in a b c d e f;g = xor a b c;h = xor d e f;k = xor g h;see k;");
+        for (int input = 0; input < 6; input++) {
+            int at = input;
+            Check.due("all six are set", () -> y.cube(17, at), 0);
+            Check.due("all six are set, the last one 1", () -> y.cube(16, at), at == 5 ? 1 : 0);
+        }
+        Check.due("six", () -> y.test(16, 5), 6);
         Check.noSuch("cube(-1, 0)", () -> x.cube(-1, 0));
     }
 
@@ -396,6 +409,13 @@ final class NetTests {
         }
         Check.noSuch("pack(4)", () -> x.pack(4));
         Check.noSuch("pack(-2)", () -> x.pack(-2));
+        x.pick(-1);
+        x.pick(1);
+        x.pick(10);
+        Check.due("each in one of its own", () -> x.pack(-1) * 100 + x.pack(0) * 10 + x.pack(1), 201);
+        x.undo();
+        x.undo();
+        x.undo();
         x.undo();
         Check.due("one less", () -> x.pack(2), 1);
         Check.noSuch("pack(3)", () -> x.pack(3));
@@ -417,6 +437,43 @@ final class NetTests {
         for (int i = -1; i < 8; i++) {
             int at = i;
             Check.due("of eight pack(" + i + ")", () -> x.pack(at), y.pack(at));
+        }
+    }
+
+    /** Six INPUTS, sixteen GATES, all of their LINES SEEN. */
+    private static void largest() {
+        StringBuilder text = new StringBuilder("in a b c d e f;chain f e d c b a;");
+        StringBuilder see = new StringBuilder("see a b c d e f");
+        String[] kinds = {"not", "and", "or", "xor", "nand", "nor"};
+        for (int i = 0; i < 16; i++) {
+            String name = "g" + (char) ('a' + i);
+            String last = i == 0 ? "f" : "g" + (char) ('a' + i - 1);
+            text.append(name).append("=").append(kinds[i % 6]).append(" ").append(last);
+            text.append(i % 6 == 0 ? ";" : " " + "abcdef".charAt(i % 5) + ";");
+            see.append(" ").append(name);
+        }
+        text.append(see).append(";take a gp;take b go;take c gn;");
+        ScanPacker x = Texts.of(text.toString());
+        Reference y = new Reference();
+        feedTo(y, text.toString());
+        Check.due("44 FAULTS", () -> x.count(5), 44);
+        Check.due("PATTERNS", () -> x.count(13), y.count(13));
+        Check.due("all FIT", () -> x.fits(-1), 44);
+        Check.due("look(0)", () -> x.look(0), y.look(0));
+        Check.due("look(1)", () -> x.look(1), y.look(1));
+        Check.due("the last FAULT as DEFECT", () -> x.defect(43) + y.defect(43), -2);
+        Check.due("take()", x::take, y.take());
+        for (int f = 0; f < 44; f++) {
+            int fault = f;
+            for (int what = 0; what < 6; what++) {
+                int w = what;
+                Check.due("largest test(" + f + ", " + what + ")", () -> x.test(fault, w), y.test(fault, w));
+            }
+            Check.due("largest tells(" + f + ")", () -> x.tells(fault), y.tells(fault));
+        }
+        for (int i = -1; i < 6; i++) {
+            int at = i;
+            Check.due("largest order(0, " + i + ")", () -> x.order(0, at), y.order(0, at));
         }
     }
 

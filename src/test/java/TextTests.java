@@ -17,6 +17,7 @@ final class TextTests {
         already();
         allAnew();
         allStaysWithFault();
+        nothingLeftOfOtherTexts();
     }
 
     private static void newObject() {
@@ -259,6 +260,47 @@ final class TextTests {
         Check.due("image is gone", x::restore, 0);
         x.undo();
         Check.due("ACTS are gone", x::undo, -1);
+    }
+
+    /** NETS one behind the other, also behind a text that breaks off, are as in a new object. */
+    private static void nothingLeftOfOtherTexts() {
+        ScanPacker x = new ScanPacker();
+        String[] texts = {
+            "in a b c d e f;chain a b;chain c d;chain e f;g=nand a b c;h=or g d;see a b c d e f g;take a h;fill 2;",
+            "in a b;chain b;g=not b;see g a;",
+            "in a b c d;g=xor a b c;h=not g;see a b h;chain a b c;take a h;fill 1;@",
+            "in a b c;chain c;k=or a b;m=not k;see m;",
+            "in a b c;g=and a b c;chain a;chain b;chain c;fill 2;see a;take a a",
+            "fill 0;in a;see a;",
+            "in p q r s;"
+        };
+        for (String text : texts) {
+            ScanPacker y = new ScanPacker();
+            Check.due("net of [" + text + "]", () -> Texts.net(x, text), Texts.net(y, text));
+            if (y.fault() == -1) {
+                same(text, x, y);
+            }
+            x.count(13);
+        }
+    }
+
+    private static void same(String text, ScanPacker x, ScanPacker y) {
+        for (int what = 0; what < 17; what++) {
+            int w = what;
+            Check.due("[" + text + "] count(" + what + ")", () -> x.count(w), y.count(w));
+        }
+        for (int i = 0; i < 4; i++) {
+            for (int k = -1; k < 10; k++) {
+                int at = i;
+                int w = k;
+                Check.due("line", () -> x.line(at, w), Check.answerOf(() -> y.line(at, w)));
+                Check.due("chain", () -> x.chain(at, w), Check.answerOf(() -> y.chain(at, w)));
+                Check.due("program", () -> x.program(at, w), Check.answerOf(() -> y.program(at, w)));
+                Check.due("test", () -> x.test(w, at), Check.answerOf(() -> y.test(w, at)));
+                Check.due("cube", () -> x.cube(w, at), Check.answerOf(() -> y.cube(w, at)));
+                Check.due("order", () -> x.order(at, w), Check.answerOf(() -> y.order(at, w)));
+            }
+        }
     }
 
     private static void allStaysWithFault() {
