@@ -268,6 +268,10 @@ final class NetTests {
         Check.due("by: an UNSET GATE that STICKS", () -> x.by(80, 9, 4), 1);
         Check.due("by: another LINE", () -> x.by(80, 9, 5), 2);
         Check.due("by: no DEFECT is thought of", () -> x.defect(9) + 10 * x.by(28, -1, 4), -1);
+        ScanPacker y = Texts.of("in a b c d e f;g=and a f;");
+        Check.due("by: six INPUTS", () -> y.by(1 + 243, -1, 6), 1);
+        Check.due("by: six UNSET", () -> y.by(728, -1, 6), 2);
+        Check.illegal("by(729, ..)", () -> y.by(729, -1, 6));
         Check.illegal("by(81, ..)", () -> x.by(81, -1, 0));
         Check.illegal("by(-1, ..)", () -> x.by(-1, 0, 0));
         Check.noSuch("by: no FAULT", () -> x.by(0, 12, 0));
@@ -297,6 +301,9 @@ final class NetTests {
         ScanPacker y = Texts.of("in a b c d e f;chain a b c;chain d e f;see b e;");
         programIs(y, 0, 18, 2, 6, 2);
         programIs(y, 1, 0, 2, 0, 2);
+        ScanPacker z = Texts.of("in a b c d e f;chain a b;chain c d;chain e f;see b c f;");
+        programIs(z, 0, 38, 3, 3, 3);
+        programIs(z, 1, 0, 3, 0, 3);
     }
 
     /** Only d is SEEN: all others are UNSET in the CUBES. */
@@ -385,6 +392,10 @@ final class NetTests {
         ScanPacker y = Texts.of(TWO_CHAINS);
         Check.due("like ones, COST", () -> y.order(0, -1), 1);
         Check.due("like ones, the first", () -> y.order(0, 0), 0);
+        y.load(5);
+        y.apply();
+        Check.due("PATTERNS of the rest", () -> y.count(13), 2);
+        Check.due("COST of the rest alone", () -> y.order(0, -1), 0);
         Check.due("one CELL", () -> y.order(1, 0), 2);
         Check.due("one CELL, COST", () -> y.order(1, -1), 0);
     }

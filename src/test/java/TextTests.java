@@ -18,6 +18,8 @@ final class TextTests {
         allAnew();
         allStaysWithFault();
         nothingLeftOfOtherTexts();
+        nothingLeftInNumbers();
+        endsWithin();
     }
 
     private static void newObject() {
@@ -282,6 +284,37 @@ final class TextTests {
             }
             x.count(13);
         }
+    }
+
+    /** Every second net is laid over what an earlier one left. */
+    private static void nothingLeftInNumbers() {
+        ScanPacker x = Texts.of("in a b;chain a b;");
+        Texts.net(x, "in a b c;see c;");
+        Texts.net(x, "in a b;chain a;see b;fill 2;");
+        Check.due("an earlier CELL isn't what is set next", () -> x.program(0, 0), 2);
+        Texts.net(x, "in a;g=not a;");
+        Check.due("a GATE where a PIN was", () -> x.put(1, 1), -1);
+        Texts.net(x, "in a b;chain b;chain a;see b;");
+        Texts.net(x, "in a b;see b;");
+        Check.due("no COST of CHAINS that were", () -> x.program(0, 2), 0);
+    }
+
+    /** What is on the tape behind the text's end is no part of its last TOKEN. */
+    private static void endsWithin() {
+        ScanPacker x = new ScanPacker();
+        Texts.feed(x, "in a;abcdefgh");
+        Check.due("the word ends with the text", () -> x.net(6), 4);
+        Check.due("its place", x::fault, 5);
+        Texts.feed(x, "fill 12;");
+        Check.due("the NUMBER ends with the text", () -> x.net(6), 1);
+        Check.due("its place", x::fault, 6);
+        Texts.feed(x, "fill 1;in a;");
+        Check.due("the sign ends the text", () -> x.net(7), 0);
+        Check.due("no INPUTS", () -> x.count(0), 0);
+        Check.due("a word ends 900 bytes", () -> Texts.net(x, " ".repeat(895) + "in ab"), 1);
+        Check.due("its place", x::fault, 900);
+        Check.due("a NUMBER ends 900 bytes", () -> Texts.net(x, " ".repeat(893) + "fill 22"), 2);
+        Check.due("its place", x::fault, 898);
     }
 
     private static void same(String text, ScanPacker x, ScanPacker y) {
