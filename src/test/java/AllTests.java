@@ -7,6 +7,10 @@ public final class AllTests {
         TextTests.all();
         NetTests.all();
         MachineTests.all();
+        TextEdges.all();
+        NetEdges.all();
+        MachineEdges.all();
+        Refusals.all();
         FaceTests.all();
         RandomRuns.all(args.length > 0 ? Integer.parseInt(args[0]) : 1500);
         Check.say();

@@ -1,7 +1,7 @@
 /** Promises 16 to 34: the MACHINE, ACTS undone, what is NOTED, what is to come, AN IMAGE. */
 final class MachineTests {
     /** Six CELLS that count: each TAKEN is one more; z is 1 by 63 alone. */
-    private static final String COUNTER = "in a b c d e f;chain a b c d e f;n=not a;p=xor a b;q=and a b;r=xor q c;"
+    static final String COUNTER = "in a b c d e f;chain a b c d e f;n=not a;p=xor a b;q=and a b;r=xor q c;"
         + "s=and q c;t=xor s d;u=and s d;v=xor u e;w=and u e;x=xor w f;z=and w f;"
         + "take a n;take b p;take c r;take d t;take e v;take f x;see z;";
 
@@ -495,7 +495,7 @@ final class MachineTests {
     }
 
     /** The same by calls that stay. */
-    private static void live(ScanPacker y, int seed, int n) {
+    static void live(ScanPacker y, int seed, int n) {
         long s = seed;
         int inputs = y.count(0);
         for (int i = 0; i < n; i++) {
