@@ -26,13 +26,16 @@ final class MachineEdges {
         appliedAsTheyAre();
         actsAtMostForty();
         actsThatChangeNothing();
+        actsChangeThatAlone();
         undoneLastFirst();
+        statusIsNotUndone();
         notedAtMostTen();
         fitsNoneAndAll();
         fitsOfWhat();
         lookNext();
         lookAtFirstOfLikeOnes();
         lookOfWhat();
+        forgottenAlone();
         behindUpToForty();
         backUpToSixtyFour();
         tellsUpToSixtyFour();
@@ -233,6 +236,15 @@ final class MachineEdges {
         Check.due("what a tells is TAKEN", x::take, 0);
         x.defect(3);
         Check.due("what b has comes out", () -> x.shift(1), 0);
+        x.defect(1);
+        Check.due("what a had comes to b", () -> x.shift(0) * 10 + x.count(9), 2);
+        Check.due("a tells 1", () -> x.line(0, 6), 1);
+        x.defect(2);
+        Check.due("what is SHIFTED into b", () -> x.shift(1) * 10 + x.count(9), 11);
+        x.shift(1);
+        Check.due("b has 1", () -> x.count(9), 3);
+        Check.due("b tells 0", () -> x.line(1, 6), 0);
+        x.load(0);
         x.defect(5);
         Check.due("what PIN p has was put", () -> x.put(2, 0), 0);
         Check.due("it tells 1", () -> x.line(2, 6), 1);
@@ -376,6 +388,82 @@ final class MachineEdges {
         changesNothing("load(0) of an empty NET", ScanPacker::new, y -> y.load(0), 0);
         changesNothing("apply() of an empty NET", ScanPacker::new, ScanPacker::apply, 0);
         changesNothing("take() of an empty NET", ScanPacker::new, ScanPacker::take, 0);
+    }
+
+    /** What may be counted of the MACHINE, what is NOTED, the tape and STATUS. */
+    private static final int[] COUNTED = {4, 8, 9, 10, 11, 12, 15, 16, 17, 18, 19};
+
+    private static void changes(String what, Act act, int... due) {
+        ScanPacker x = inUse();
+        int[] before = new int[COUNTED.length];
+        for (int i = 0; i < before.length; i++) {
+            before[i] = x.count(COUNTED[i]);
+        }
+        act.of(x);
+        for (int i = 0; i < before.length; i++) {
+            int counted = COUNTED[i];
+            int was = before[i];
+            boolean changes = false;
+            for (int each : due) {
+                changes |= each == counted;
+            }
+            String said = what + (changes ? " changes" : " leaves") + " count(" + counted + ")";
+            Check.due(said, () -> x.count(counted) == was ? 0 : 1, changes ? 1 : 0);
+        }
+    }
+
+    private static ScanPacker inUse() {
+        ScanPacker x = twoChains();
+        Texts.net(x, "@");
+        x.load(9);
+        x.apply();
+        x.pick(4);
+        x.defect(7);
+        x.put(0, 1);
+        x.note(0, 4, 1);
+        x.note(0, 0, 1);
+        x.load(8);
+        Texts.feed(x, "in q;");
+        return x;
+    }
+
+    /** "ACTS: a PIN is put, SHIFTED, TAKEN, LOADED, APPLIED, a DEFECT is told, .. FILL ..": each changes that alone. */
+    private static void actsChangeThatAlone() {
+        changes("put", x -> x.put(3, 0), 9);
+        changes("shift", x -> x.shift(1), 9, 10);
+        changes("take", ScanPacker::take, 9, 10);
+        changes("load", x -> x.load(7), 9, 10);
+        changes("apply", ScanPacker::apply, 8);
+        changes("defect", x -> x.defect(3), 11);
+        changes("defect of none", x -> x.defect(-1), 11);
+        changes("fill", x -> x.fill(0), 4);
+        changes("pick", x -> x.pick(0), 12);
+        changes("pick of none", x -> x.pick(-1), 12);
+        changes("undo of load", ScanPacker::undo, 9, 10);
+        changes("note", x -> x.note(1, 4, 0), 15);
+        changes("a note that is refused", x -> x.note(1, 4, 2), 19);
+        changes("an ACT that is refused", x -> x.put(0, 0), 18);
+        changes("a TEXT with a FAULT", x -> x.net(4), 16, 17);
+        changes("feed", x -> x.feed(0, 0, 0, 0, 0), 16);
+    }
+
+    /** "(at most 40 are kept ..) They are UNDONE": STATUS, what is NOTED, the tape and its place aren't ACTS. */
+    private static void statusIsNotUndone() {
+        ScanPacker y = inUse();
+        y.put(0, 1);
+        y.note(1, 4, 2);
+        y.note(1, 4, 0);
+        int[] due = {20, 1, 2, 2};
+        for (int i = 0; i < 6; i++) {
+            y.undo();
+            for (int k = 0; k < due.length; k++) {
+                int what = 16 + k;
+                Check.due("undo() leaves count(" + what + ")", () -> y.count(what), due[k]);
+            }
+            Check.due("undo() leaves NOTED", () -> y.count(15), 2);
+            Check.due("undo() leaves the place", y::fault, 0);
+        }
+        Check.due("nothing is left to be UNDONE", y::undo, -1);
     }
 
     /** "They are UNDONE, the last one first"; "how many are left. NONE: there is none". */
@@ -542,6 +630,35 @@ final class MachineEdges {
         for (int what : others) {
             Check.noSuch("none of these: look(" + what + ")", () -> x.look(what));
         }
+    }
+
+    private static ScanPacker noted(boolean more) {
+        ScanPacker x = inUse();
+        x.image();
+        x.forget();
+        x.pick(8);
+        x.shift(2);
+        if (more) {
+            x.note(9, 4, 0);
+            x.note(9, 5, 1);
+            x.forget();
+        }
+        return x;
+    }
+
+    /** Promise 28: "All that is NOTED is forgotten": that alone, and it is no ACT. */
+    private static void forgottenAlone() {
+        Twins.same("forget()", () -> noted(false), () -> noted(true));
+        Twins.same("forget() of none", () -> noted(true), () -> {
+            ScanPacker x = noted(true);
+            x.forget();
+            return x;
+        });
+        ScanPacker x = noted(true);
+        Check.due("none is NOTED", () -> x.count(15), 0);
+        Check.due("ACTS", () -> x.count(14), 7);
+        Check.due("PICKED", () -> x.count(12), 2);
+        Check.due("in the IMAGE one is NOTED", () -> x.restore() ? x.count(15) : -1, 1);
     }
 
     /** "BEHIND n (0 to 40) times TAKEN". */

@@ -14,6 +14,7 @@ final class NetEdges {
     static void all() {
         rowsAreOfAllInputs();
         gatesOfUnset();
+        xorOfOneLineTwice();
         faultsAreTwoOfALine();
         inputsThatStick();
         caughtBySeenLines();
@@ -23,10 +24,13 @@ final class NetEdges {
         alikeAndUnder();
         agreeOnUnset();
         filledChains();
+        filledWithoutChains();
         noPatterns();
         costOfCells();
         orderOfCells();
         groupsOfPicked();
+        groupsAsPicked();
+        doneOfEachFault();
         countOfWhat();
         countsAtTheirEnds();
         lineOfWhat();
@@ -117,6 +121,21 @@ final class NetEdges {
                 Check.due(kinds[kind] + " of three by " + row, () -> x.by(r, -1, 4), due(kind, r % 3, r / 3 % 3, r / 9));
             }
         }
+    }
+
+    /** "xor: UNSET if any is, else whether an odd number is 1": also where both are one LINE, and 0 whatever it is. */
+    private static void xorOfOneLineTwice() {
+        ScanPacker x = Texts.of("in a b;g=xor a a;h=xor a b a;k=xor b b b;see g h k;");
+        for (int row = 0; row < 9; row++) {
+            int r = row;
+            int a = row % 3;
+            int b = row / 3;
+            Check.due("xor a a by " + row, () -> x.by(r, -1, 2), a == 2 ? 2 : 0);
+            Check.due("xor a b a by " + row, () -> x.by(r, -1, 3), a == 2 ? 2 : b);
+            Check.due("xor b b b by " + row, () -> x.by(r, -1, 4), b);
+        }
+        Check.due("g at 1: CAUGHT by all ROWS", () -> x.test(5, 0), 4);
+        Check.due("its CUBE sets a all the same", () -> x.test(5, 5) * 10 + x.cube(5, 0), 10);
     }
 
     /** "A FAULT f is of LINE f / 2, that STICKS at f MOD 2": the first ones, the last ones. */
@@ -298,6 +317,17 @@ final class NetEdges {
         pattern("in a b c d e f;chain f e d c b a;n=not e;g=and n b;see g;", 0, 2, 47, 3);
     }
 
+    /** "PINS 0": where there are no CELLS, too; but for what is set in a PIN. */
+    private static void filledWithoutChains() {
+        pattern("in a b c;see b;", 0, 2, 7, 2);
+        pattern("in a b c;see b;", 1, 0, 5, 0);
+        pattern("in a b c;g=and a c;see g;", 0, 5, 7, 5);
+        pattern("in a b c;chain b;see c;", 0, 4, 7, 4);
+        pattern("in a b c;chain b;see c;", 1, 0, 3, 0);
+        // c, a PIN, stands behind the last CELL: nothing comes along to it
+        pattern("in a b c;chain a b;see a;", 0, 1, 7, 3);
+    }
+
     /** "As long as there is a FAULT that is neither LOST, DONE, nor CAUGHT by a PATTERN ahead": none. */
     private static void noPatterns() {
         ScanPacker x = Texts.of("in a b;chain a b;");
@@ -377,6 +407,39 @@ final class NetEdges {
         Check.due("the first one", () -> y.pack(0), 0);
         Check.due("the last one", () -> y.pack(7), 0);
         Check.noSuch("none behind it", () -> y.pack(8));
+    }
+
+    /** "the first such row of groups (of the first PICKED, the second ..)": as they were PICKED, not as they are numbered. */
+    private static void groupsAsPicked() {
+        ScanPacker x = Texts.of("in a b;see a b;");
+        int[][] picks = {{3, 0, 1}, {0, 1, 3}, {1, 3, 0}, {3, 1, 0}};
+        int[] due = {1, 10, 1, 1};
+        for (int i = 0; i < picks.length; i++) {
+            x.pick(-1);
+            for (int fault : picks[i]) {
+                x.pick(fault);
+            }
+            int groups = due[i];
+            String what = picks[i][0] + ", " + picks[i][1] + ", " + picks[i][2];
+            Check.due("two groups of " + what, () -> x.pack(-1), 2);
+            Check.due("groups of " + what, () -> x.pack(0) * 100 + x.pack(1) * 10 + x.pack(2), groups);
+        }
+    }
+
+    /** Promise 9: "4 whether it is DONE": of each FAULT up to the last one of 44. */
+    private static void doneOfEachFault() {
+        ScanPacker x = Texts.of(WIDEST.replace("see xo", "see e f xm xn xo"));
+        x.load(32);
+        x.apply();
+        // e is 0 and f 1; without a and b: g 1, xa 0, .. xn 1, xo 0
+        for (int fault = 0; fault < 44; fault++) {
+            int f = fault;
+            boolean sound = fault / 2 == 5 || fault / 2 >= 6 && fault / 2 % 2 == 0;
+            boolean toldApart = fault / 2 >= 6 || fault / 2 == 4 || fault / 2 == 5;
+            int due = toldApart && fault % 2 != (sound ? 1 : 0) ? 1 : 0;
+            Check.due("DONE: test(" + fault + ", 4)", () -> x.test(f, 4), due);
+        }
+        Check.due("DONE", () -> x.count(8), 18);
     }
 
     /** Promise 5: "another what". */
