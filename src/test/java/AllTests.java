@@ -12,6 +12,7 @@ public final class AllTests {
         MachineEdges.all();
         Refusals.all();
         FaceTests.all();
+        ReadmeTests.all();
         RandomRuns.all(args.length > 0 ? Integer.parseInt(args[0]) : 1500);
         Check.say();
         System.exit(Check.failures() == 0 ? 0 : 1);
